@@ -360,7 +360,7 @@ public final class FootIsle {
         for (int cell = CELLS - 1; cell >= 0; cell--) {
             boolean fits = asItIs;
             if (now.isTrodden(cell)) {
-                survey.lookWithout(now, cell);
+                survey.lookWithout(now, 0, cell);
                 fits = isLandOfAll(sheets[sheet], i);
             }
             if (fits) {
@@ -667,7 +667,9 @@ public final class FootIsle {
 
         void passHour() {
             for (int i = 0; i < walkers * CELLS; i++) {
-                prints[i] = depthBehind(prints[i], i % CELLS, 1);
+                if (prints[i] > 0) {
+                    prints[i] = depthBehind(prints[i], i % CELLS, 1);
+                }
             }
             hour++;
         }
@@ -772,61 +774,26 @@ public final class FootIsle {
 
     /** Who claims and holds what, behind some hours; made anew for each look. */
     private static final class Survey {
-        final int[] depths = new int[ALL_PRINTS];
         final int[] claims = new int[ALL_PRINTS];
-        final int[] acrossColumns = new int[CELLS];
         final int[] lands = new int[MOST_WALKERS];
         int heldCells = 0;
         int walkers = 0;
 
         void look(Isle isle, int n) {
-            fade(isle, n);
-            spreadAll(isle.settings[REACH]);
-            tally();
+            lookWithout(isle, n, NONE);
         }
 
-        /** As all would be if one cell were raked now. */
-        void lookWithout(Isle isle, int cell) {
-            fade(isle, 0);
-            for (int i = cell; i < ALL_PRINTS; i += CELLS) {
-                depths[i] = 0;
-            }
-            spreadAll(isle.settings[REACH]);
-            tally();
-        }
-
-        private void fade(Isle isle, int n) {
+        /** As all would be if one cell were raked first. */
+        void lookWithout(Isle isle, int n, int raked) {
             walkers = isle.walkers;
+            Arrays.fill(claims, 0);
             for (int i = 0; i < walkers * CELLS; i++) {
-                depths[i] = isle.depthBehind(isle.prints[i], i % CELLS, n);
+                int cell = i % CELLS;
+                if (isle.prints[i] > 0 && cell != raked) {
+                    raise(i - cell, cell, isle.depthBehind(isle.prints[i], cell, n), isle.settings[REACH]);
+                }
             }
-        }
-
-        private void spreadAll(int reach) {
-            for (int w = 0; w < walkers; w++) {
-                spread(w * CELLS, reach);
-            }
-        }
-
-        /** The deepest of a square is the deepest of its rows' deepest: so a line each way does for all the square. */
-        private void spread(int row, int reach) {
-            for (int cell = 0; cell < CELLS; cell++) {
-                acrossColumns[cell] = deepest(depths, row + cell, columnOf(cell), 1, reach);
-            }
-            for (int cell = 0; cell < CELLS; cell++) {
-                claims[row + cell] = deepest(acrossColumns, cell, rowOf(cell), SIDE, reach);
-            }
-        }
-
-        /** The deepest on a line through one item, which is the place-th of its line; the others are stride apart. */
-        private static int deepest(int[] depths, int at, int place, int stride, int reach) {
-            int first = Math.max(-reach, -place);
-            int last = Math.min(reach, SIDE - 1 - place);
-            int best = 0;
-            for (int k = first; k <= last; k++) {
-                best = Math.max(best, depths[at + k * stride]);
-            }
-            return best;
+            tally();
         }
 
         /** Counts who holds how much by the claims as they stand. */

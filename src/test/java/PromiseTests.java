@@ -136,6 +136,9 @@ public final class PromiseTests {
         due("STEPS", x.of(0, 3), 1);
         due("CELL", x.of(0, 2), cell(2, 2));
         due("LAND", x.of(0, 6), 9);
+        FootIsle shallow = isle("21;p133");
+        shallow.step(0, 0);
+        due("LAND now, though gone in an hour", shallow.of(0, 6), 9);
         due("of(6, 0)", x.of(6, 0), BAD);
         due("of(-1, 0)", x.of(-1, 0), BAD);
         due("of(0, 7)", x.of(0, 7), BAD);
@@ -199,6 +202,15 @@ public final class PromiseTests {
             due("claim a row more", x.claim(0, cell(7, 4 + reach)), 0);
         }
         due("claim of who has none", x.claim(1, cell(4, 3)), 0);
+        FootIsle y = isle("21;p317,p801,p377");
+        y.step(0, 0); // 3 at 2 7
+        y.step(1, 3); // 8 at 0 0
+        due("at the far rim", y.claim(0, cell(3, 7)), 3);
+        due("not of the next one, at the shore", y.claim(1, cell(3, 0)), 0);
+        due("from cell 0", y.claim(1, cell(1, 1)), 8);
+        y = isle("21;p810,p377");
+        y.step(0, 2); // 8 at 0 0
+        due("from cell 0, of WALKER 0", y.claim(0, cell(1, 1)), 8);
         due("claim(2, 0)", x.claim(2, 0), BAD);
         due("claim(-1, 0)", x.claim(-1, 0), BAD);
         due("claim(0, 64)", x.claim(0, 64), BAD);
@@ -219,6 +231,9 @@ public final class PromiseTests {
         x.step(0, 0); // 3 at 3 3
         x.step(0, 2); // 6 at 2 3
         due("deeper yet", x.held(cell(3, 3)), 0);
+        FootIsle y = isle("21;p133");
+        y.step(0, 0);
+        due("now, though gone in an hour", y.held(cell(3, 3)), 0);
         due("held(64)", x.held(64), BAD);
         due("held(-1)", x.held(-1), BAD);
     }
@@ -240,7 +255,7 @@ public final class PromiseTests {
 
     private static void isles() {
         promise = 9;
-        FootIsle x = isle("21;p133,h255");
+        FootIsle x = isle("21;p933,h255");
         x.isle(0, 5);
         x.isle(3, 7);
         x.isle(4, 1);
@@ -248,8 +263,8 @@ public final class PromiseTests {
         x.step(0, 0);
         x.hours(2);
         String[] faulty = {"", "  ", "x", "2", "2 ", "24", "21", "21:", "21;", "21;x", "21;p", "21;p0", "21;p1", "21;p18", "21;p1 0", "21;p108",
-            "21;p100x", "21;p100,", "21;p100,,", " 2 1 ; p 1 0 0 ; ", "21;p100,s111,h122,k133,o144,p155,", "P1;p100", "21;P100", "a1;p100"};
-        int[] places = {0, 2, 0, 1, 2, 1, 2, 2, 3, 3, 4, 4, 5, 5, 7, 6, 7, 8, 8, 15, 32, 0, 3, 0};
+            "21;p100x", "21;p100,", "21;p100,,", " 2 1 ; p 1 0 0 ; ", "21;p100,s111,h122,k133,o144,p155,", "P1;p100", "21;P100", "a1;p100", ";p100", "21;00", "21;,p100", "21;p,00", "2 ;p100"};
+        int[] places = {0, 2, 0, 1, 2, 1, 2, 2, 3, 3, 4, 4, 5, 5, 7, 6, 7, 8, 8, 15, 32, 0, 3, 0, 0, 3, 3, 4, 2};
         for (int i = 0; i < faulty.length; i++) {
             due("settle() of '" + faulty[i] + "'", settleAs(x, faulty[i]), -20 - places[i]);
         }
@@ -267,6 +282,13 @@ public final class PromiseTests {
         due("weight", x.of(0, 1), 9);
         due("steps", x.of(0, 3), 0);
         due("nothing to be undone", x.undo(), NONE);
+        for (int c = 0; c < 64; c++) {
+            due("no print", x.print(0, c) + x.print(1, c), 0);
+        }
+        for (int reach = 0; reach <= 3; reach++) {
+            due("settle()", settleAs(x, "0" + reach + ";p177"), 1);
+            due("REACH", x.count(4), reach);
+        }
         due("the draw stays", x.seed(1), 99);
     }
 
@@ -282,6 +304,11 @@ public final class PromiseTests {
         }
         x.step(0, 0);
         due("two prints on one cell", x.count(9), 2);
+        FootIsle y = isle("21;p110");
+        y.step(0, 2); // 1 at 0 0
+        due("one print, 1 deep, at cell 0", y.count(9), 1);
+        due("held behind 48 hours", y.land(0, 48), 0);
+        due("held now", y.count(8), 4);
         due("count(10)", x.count(10), BAD);
         due("count(-1)", x.count(-1), BAD);
     }
@@ -335,6 +362,16 @@ public final class PromiseTests {
         due("step(0, 3)", x.step(0, 3), 0);
         due("step(1, 2)", x.step(1, 2), 62);
         due("step(1, 3)", x.step(1, 3), 54);
+        for (int i = 0; i < 8; i++) {
+            due("beyond x 7", isle("21;p17" + i).step(0, 0), NOT);
+            due("beyond y 7", isle("21;p1" + i + "7").step(0, 1), NOT);
+            due("beyond x 0", isle("21;p10" + i).step(0, 2), NOT);
+            due("beyond y 0", isle("21;p1" + i + "0").step(0, 3), NOT);
+            due("to x 7", isle("21;p16" + i).step(0, 0), cell(7, i));
+            due("to y 7", isle("21;p1" + i + "6").step(0, 1), cell(i, 7));
+            due("to x 0", isle("21;p11" + i).step(0, 2), cell(0, i));
+            due("to y 0", isle("21;p1" + i + "1").step(0, 3), cell(i, 0));
+        }
     }
 
     private static void hoursPass() {
@@ -406,6 +443,12 @@ public final class PromiseTests {
         due("drift(0)", x.drift(0), BAD);
         due("drift(25)", x.drift(25), BAD);
         due("the draw", x.seed(0), 1103527590);
+        FootIsle y = isle("01;p925"); // the cells from 1 on are 6, 62, 1, 43, 11, 59
+        y.step(0, 0); // 9 at 3 5
+        due("not yet", y.drift(3), 0);
+        due("cell 43", y.drift(1), 1);
+        walk(y, 0, "2"); // 9 at 2 5
+        due("not there", y.drift(2), 0);
     }
 
     private static void rakes() {
@@ -590,6 +633,14 @@ public final class PromiseTests {
         FootIsle z = isle("01;p176");
         walk(z, 0, "322222221"); // row 5 from x 7 to x 0
         due("the rim is no wall", z.county(0), 0);
+        FootIsle right = isle("01;p152");
+        walk(right, 0, "00112233"); // round 6 3, by x 7
+        due("by the rim", right.county(0), 1);
+        FootIsle big = isle("01;p111");
+        walk(big, 0, "00000" + "11111" + "22222" + "33333"); // round 4 by 4
+        due("walked round", big.county(0), 16);
+        big.rake(cell(1, 1));
+        due("a corner lost", big.county(0), 16);
     }
 
     private static void ways() {
@@ -606,6 +657,14 @@ public final class PromiseTests {
         due("nowhere", x.way(1, cell(0, 3), cell(0, 3)), 0);
         x.isle(2, 1);
         due("three rows", x.way(1, cell(7, 0), cell(7, 7)), 3);
+        FootIsle y = isle("21;p110,p177");
+        y.step(0, 2); // 1 at 0 0
+        due("to cell 0, held by another", y.way(1, 63, 0), 2);
+        due("from cell 0", y.way(1, 0, 63), 1);
+        due("to cell 0, one's own", y.way(0, 63, 0), 0);
+        FootIsle z = isle("21;p133,p177");
+        z.step(0, 0);
+        due("now, though gone in an hour", z.way(1, 63, cell(4, 3)), 2);
         due("way(2, 0, 0)", x.way(2, 0, 0), BAD);
         due("way(-1, 0, 0)", x.way(-1, 0, 0), BAD);
         due("way(0, 64, 0)", x.way(0, 64, 0), BAD);
@@ -652,12 +711,16 @@ public final class PromiseTests {
         expectWalk(isle("21;p370"), 0, 0, 6, "1");
         expectWalk(isle("21;p377"), 0, 0, 6, "2");
         expectWalk(isle("21;p931"), 0, 6, 9, "1");
+        expectWalk(isle("21;p377"), 0, 0, 15, "2322");
+        expectWalk(isle("21;p200,p377"), 1, 0, 15, "2322");
+        expectWalk(isle("21;p200,p377"), 1, 0, 6, "2");
     }
 
     private static void walksOfKinds() {
         promise = 22;
         expectWalk(isle("21;o333"), 0, 0, 0, "0");
         expectWalk(isle("21;o333"), 0, 0, 9, "00");
+        expectWalk(isle("21;o377"), 0, 0, 0, "2");
         FootIsle hopper = isle("21;o333");
         hopper.step(0, 0);
         expectWalk(hopper, 0, 0, 9, "0");
@@ -687,6 +750,9 @@ public final class PromiseTests {
         x.step(1, 2); // 9 at 3 4
         due("held by another, deeper", x.well(0, cell(3, 3), 0), NONE);
         due("its own", x.well(1, cell(3, 3), 0), 0);
+        due("another walker's", x.well(1, cell(0, 4), 0), 2);
+        due("onto cell 0 itself", isle("20;p301").well(0, 0, 0), 1);
+        due("onto cell 0 itself", isle("20;p377,p303").well(1, 0, 0), 3);
         due("well(0, 0, 13)", x.well(0, 0, 13), BAD);
         due("well(0, 0, -1)", x.well(0, 0, -1), BAD);
         due("well(0, 64, 0)", x.well(0, 64, 0), BAD);
@@ -710,6 +776,10 @@ public final class PromiseTests {
         due("gone without crabs", x.crabs(0, c, 9, 0), 0);
         due("gone at once", x.crabs(0, c, 1, 100), 0);
         due("no print", x.crabs(0, 0, 0, 0), 0);
+        FootIsle y = isle("01;p133");
+        y.step(0, 0);
+        due("48 hours", y.crabs(0, cell(4, 3), 48, 0), 1000000);
+        due("48 hours of many crabs", y.crabs(0, cell(4, 3), 48, 50), 0);
         due("n 49", x.crabs(0, c, 49, 0), BAD);
         due("n -1", x.crabs(0, c, -1, 0), BAD);
         due("c 101", x.crabs(0, c, 1, 101), BAD);
@@ -734,9 +804,10 @@ public final class PromiseTests {
         x.sheet(1, 1, 3);
         x.drop(0);
         settleAs(x, "x");
-        x.walker(0, 1, 1);
+        settleAs(x, "33;o911,s922,p111");
+        x.step(0, 0);
         x.step(1, 0);
-        x.drift(3);
+        x.drift(9);
         for (int what = 0; what < 5; what++) {
             x.isle(what, 2);
         }
@@ -750,6 +821,8 @@ public final class PromiseTests {
         due("where", x.of(0, 2), cell(4, 3));
         due("steps", x.of(0, 3), 1);
         due("print", x.print(0, cell(4, 3)), 4);
+        due("kind", x.of(0, 0), 3);
+        due("weight", x.of(0, 1), 3);
         due("the draw", x.seed(2), 9);
         due("THE TAPE is as it is", x.type('3'), 2);
         due("SHEETS are as they are", x.drop(0), NULL);
@@ -758,6 +831,9 @@ public final class PromiseTests {
         due("print", x.print(0, cell(4, 3)), 6);
         due("undo()", x.undo(), 0);
         due("where", x.of(0, 2), cell(3, 3));
+        due("steps", x.of(0, 3), 0);
+        due("HOUR", x.count(1), 0);
+        due("the draw", x.seed(6), 1);
         due("again", x.restore(), 1);
         due("what may be undone", x.count(7), 2);
         x.hours(1);
@@ -815,6 +891,15 @@ public final class PromiseTests {
         due("by LAND of both", y.raked(0, 0, 0, 0), 62);
         due("two items are wanted", y.raked(0, 0, 1, 0), INDEX);
         due("nothing is changed", y.print(1, cell(4, 3)), 5);
+        FootIsle z = isle("21;p123");
+        z.step(0, 0); // 1 at 3 3, gone in an hour
+        z.sheet(0, 0, 2);
+        due("raked now", z.raked(0, 0, 0, 0), 1);
+        z.item(0, 0, 1, 9);
+        due("as all is now", z.raked(0, 0, 1, 0), 63);
+        z.step(0, 0); // 1 at 4 3
+        due("either of two", z.raked(0, 0, 1, 0), 2);
+        due("the less", z.raked(0, 0, 1, 1), cell(3, 3));
     }
 
     private static void shoesTold() {
@@ -851,6 +936,13 @@ public final class PromiseTests {
         x.item(0, 0, 14, 63);
         x.item(0, 0, 15, 99);
         due("as told", x.shoes(0, 0, 14, 1), 0);
+        x.item(0, 0, 4, 64);
+        due("the second cell", x.shoes(0, 0, 2, 2), NOT);
+        due("it is not asked for", x.shoes(0, 0, 2, 1), 1);
+        x.item(0, 0, 4, 0);
+        x.item(0, 0, 5, 100);
+        due("the second depth", x.shoes(0, 0, 2, 2), NOT);
+        due("it is not asked for", x.shoes(0, 0, 2, 1), 1);
         FootIsle nobody = new FootIsle();
         nobody.sheet(0, 0, 2);
         due("of nobody", nobody.shoes(0, 0, 0, 1), 0);
