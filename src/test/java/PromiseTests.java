@@ -309,6 +309,9 @@ public final class PromiseTests {
         due("one print, 1 deep, at cell 0", y.count(9), 1);
         due("held behind 48 hours", y.land(0, 48), 0);
         due("held now", y.count(8), 4);
+        FootIsle z = isle("21;p177,p110");
+        z.step(1, 2); // 1 at 0 0, of WALKER 1
+        due("one print at cell 0, of another", z.count(9), 1);
         due("count(10)", x.count(10), BAD);
         due("count(-1)", x.count(-1), BAD);
     }
@@ -398,6 +401,10 @@ public final class PromiseTests {
         y.step(0, 0);
         due("no wind", y.hours(24), 9);
         due("no wind", y.print(0, cell(5, 4)), 1);
+        FootIsle six = isle("21;p100,p110,p120,p130,p140,p956");
+        six.step(5, 1); // 9 at 5 7
+        due("of six", six.hours(1), 6);
+        due("of six", six.print(5, cell(5, 7)), 7);
     }
 
     private static void lastHours() {
@@ -641,6 +648,9 @@ public final class PromiseTests {
         due("walked round", big.county(0), 16);
         big.rake(cell(1, 1));
         due("a corner lost", big.county(0), 16);
+        FootIsle six = isle("01;p100,p110,p120,p130,p140,p155");
+        walk(six, 5, "00112233"); // round 6 6, by x 7 and y 7
+        due("of the sixth", six.county(5), 1);
     }
 
     private static void ways() {
