@@ -1,6 +1,5 @@
 /** For each promise of the document: ordinary inputs, the edges that it names, wrong inputs. Numbers are worked out by hand. */
-public final class PromiseTests {
-    private static final int BAD = -1, NOT = -2, FULL = -3, NONE = -4, NULL = -11, CAST = -12, INDEX = -13, SIZE = -14;
+public final class PromiseTests extends Sand {
     private static int promise = 0;
 
     private PromiseTests() {
@@ -45,31 +44,8 @@ public final class PromiseTests {
         Check.end("PromiseTests");
     }
 
-    private static void due(String call, long got, long want) {
+    static void due(String call, long got, long want) {
         Check.due("promise " + promise + ": " + call, got, want);
-    }
-
-    private static int cell(int x, int y) {
-        return 8 * y + x;
-    }
-
-    private static int settleAs(FootIsle x, String text) {
-        for (int i = 0; i < text.length(); i++) {
-            x.type(text.charAt(i));
-        }
-        return x.settle();
-    }
-
-    private static FootIsle isle(String text) {
-        FootIsle x = new FootIsle();
-        due("settle() of " + text, settleAs(x, text), (text.length() - 2) / 5);
-        return x;
-    }
-
-    private static void walk(FootIsle x, int walker, String ways) {
-        for (int i = 0; i < ways.length(); i++) {
-            x.step(walker, ways.charAt(i) - '0');
-        }
     }
 
     private static void newObject() {
@@ -851,13 +827,6 @@ public final class PromiseTests {
         x.hours(1);
         due("the latest IMAGE", x.restore(), 1);
         due("HOUR", x.count(1), 2);
-    }
-
-    /** Of one walker who holds 9 cells by a print at 3 3: what raked answers tells an item apart (9: 63, 0: 1, others: 0). */
-    private static FootIsle nine() {
-        FootIsle x = isle("21;p323");
-        x.step(0, 0);
-        return x;
     }
 
     private static void rakedCells() {
