@@ -299,6 +299,14 @@ final class DeedEdges extends Sand {
         due("at hour 8", x.print(0, 1), 0);
     }
 
+    static void promise12HeldCellsAreThoseThen() {
+        FootIsle x = isle("21;p322,p423");
+        x.step(0, 0); // 3 at 3 2, wet
+        x.step(1, 0); // 4 at 3 3, dry
+        due("alike behind an hour", x.hours(1), 6);
+        due("not alike behind one more", x.hours(1), 9);
+    }
+
     static void promise12EachHourIsOneThingToBeUndone() {
         FootIsle x = isle("21;p933");
         x.step(0, 0);

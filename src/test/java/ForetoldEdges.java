@@ -370,6 +370,24 @@ final class ForetoldEdges extends Sand {
         due("along", x.way(1, cell(0, 3), cell(7, 3)), 0);
     }
 
+    static void promise21LandIsThatOfNow() {
+        FootIsle x = alikeNow();
+        due("WALKER 0, over what nobody holds", x.way(0, cell(3, 1), cell(3, 3)), 0);
+        due("WALKER 1, over what nobody holds", x.way(1, cell(3, 4), cell(3, 2)), 0);
+        due("WALKER 0, onto WALKER 1's", x.way(0, cell(3, 1), cell(3, 4)), 1);
+    }
+
+    static void promise21FromEachCellToEach() {
+        for (int from = 0; from < 64; from++) {
+            FootIsle x = allHeld();
+            for (int to = 0; to < 64; to++) {
+                int steps = Math.abs(from % 8 - to % 8) + Math.abs(from / 8 - to / 8);
+                due("all of it another's, from " + from + " to " + to, x.way(1, from, to), steps);
+                due("all of it one's own, from " + from + " to " + to, x.way(0, from, to), 0);
+            }
+        }
+    }
+
     // ---- promise 24
 
     static void promise24WalkerIsOneThatIsThere() {

@@ -3,7 +3,8 @@ import java.util.Random;
 /** Long runs of calls by seeded draws: FootIsle must answer what SlowIsle answers. */
 public final class ModelTests {
     private static final int RUNS = 150;
-    private static final int CALLS = 512;
+    /** Of 512 that the document allows, as many less as one more text can take. */
+    private static final int CALLS = 512 - 64;
 
     private final Random random;
     private final int run;

@@ -55,6 +55,18 @@ class Sand {
         return x;
     }
 
+    /**
+     * Prints alike now, 3 deep, of WALKER 0 at 3 2, wet, and of WALKER 1 at 3 3, dry: each holds 3 cells and nobody the 6 between,
+     * as it is neither an hour on nor an hour ago. WALKER 2 holds 4 by a print at 0 7.
+     */
+    static FootIsle alikeNow() {
+        FootIsle x = isle("21;p322,p323,p306");
+        x.step(0, 0);
+        x.step(1, 0);
+        x.step(2, 1);
+        return x;
+    }
+
     /** Nine cells held, with something in each thing that a call could change. */
     static FootIsle busy() {
         FootIsle x = isle("01;p322");

@@ -137,6 +137,15 @@ final class SheetEdges extends Sand {
         due("the less", x.raked(0, 2, 2, 1), 0);
     }
 
+    static void promise27LandIsThatOfNow() {
+        FootIsle x = alikeNow();
+        x.sheet(0, 2, 6);
+        put(x, 0, 2, 3, 3, 4, 3, 3, 0);
+        due("one of the cells without prints", x.raked(0, 2, 0, 0), 61);
+        due("WALKER 2's alone", x.raked(0, 2, 3, 0), 1);
+        due("it", x.raked(0, 2, 3, 1), cell(0, 7));
+    }
+
     static void promise27None() {
         FootIsle x = nineWith(1);
         due("how many", x.raked(0, 2, 0, 0), 0);

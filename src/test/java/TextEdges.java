@@ -125,6 +125,24 @@ final class TextEdges extends Sand {
         expectFault("21;p10" + blanks(54), 60);
     }
 
+    static void promise09TheEndOfAFullTapeIs60() {
+        String text = "21;p100,s211";
+        for (int n = 0; n < text.length(); n++) {
+            if (n != 7) {
+                expectFault(text.substring(0, n) + blanks(60 - n), 60);
+                expectFault(blanks(60 - n) + text.substring(0, n), 60);
+            }
+        }
+    }
+
+    static void promise09LettersOfAnEarlierTapeAreGone() {
+        String text = "21;p100,s211";
+        for (int n = 0; n < text.length(); n++) {
+            FootIsle x = isle(text);
+            due("the first " + n + " again", settleAs(x, text.substring(0, n)), n == 7 ? 1 : -20 - n);
+        }
+    }
+
     static void promise09AFaultsPlaceIsBehindBlanks() {
         expectFault("  x", 2);
         expectFault("2  x", 3);

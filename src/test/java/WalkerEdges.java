@@ -266,6 +266,12 @@ final class WalkerEdges extends Sand {
         due("LAND of the other", x.of(1, 6), 0);
     }
 
+    static void promise03LandIsThatOfNow() {
+        FootIsle x = alikeNow();
+        due("WALKER 0", x.of(0, 6), 3);
+        due("WALKER 1", x.of(1, 6), 3);
+    }
+
     // ---- promise 4
 
     static void promise04WhatIs0To4() {
@@ -650,6 +656,12 @@ final class WalkerEdges extends Sand {
         due("claim", x.claim(0, cell(3, 3)), 99);
     }
 
+    static void promise06ClaimIsThatOfNow() {
+        FootIsle x = alikeNow();
+        due("WALKER 0", x.claim(0, cell(3, 1)), 3);
+        due("WALKER 1", x.claim(1, cell(3, 4)), 3);
+    }
+
     // ---- promise 7
 
     static void promise07CellIs0To63() {
@@ -720,6 +732,14 @@ final class WalkerEdges extends Sand {
         due("the sixth is deeper", x.held(cell(4, 3)), 5);
     }
 
+    static void promise07HeldIsThatOfNow() {
+        FootIsle x = alikeNow();
+        due("near both", x.held(cell(3, 2)), NONE);
+        due("near both", x.held(cell(3, 3)), NONE);
+        due("near WALKER 0's", x.held(cell(3, 1)), 0);
+        due("near WALKER 1's", x.held(cell(3, 4)), 1);
+    }
+
     // ---- promise 10
 
     static void promise10WhatIs0To9() {
@@ -778,6 +798,19 @@ final class WalkerEdges extends Sand {
         x.step(0, 0);
         x.step(1, 0);
         due("one cell", x.count(9), 1);
+    }
+
+    static void promise10HeldCellsAreThoseOfNow() {
+        due("count(8)", alikeNow().count(8), 10);
+    }
+
+    static void promise10ACellOfAnyWalkersPrintCounts() {
+        FootIsle x = isle("21;p133,p133,p133,p133,p133,p110");
+        x.step(5, 2);
+        due("cell 0, of the sixth", x.count(9), 1);
+        FootIsle y = isle("21;p133,p110");
+        y.step(1, 2);
+        due("cell 0, of WALKER 1", y.count(9), 1);
     }
 
     static void promise10NothingIsChanged() {
