@@ -86,7 +86,7 @@ public final class FaceTests {
         FootIsle x = new FootIsle();
         bean.getThreadAllocatedBytes(me);
         long before = bean.getThreadAllocatedBytes(me);
-        for (int i = 0; i < 10; i++) {
+        for (int i = 0; i < 7; i++) {
             everyCall(x);
         }
         long made = bean.getThreadAllocatedBytes(me) - before;
